@@ -727,10 +727,10 @@ public final class CaseElsewhere {
             hall.clear();
             place = 0;
             boolean isGood = readClause(hall);
-            for (int i = 1; isGood && place < length; i++) {
-                isGood = i < Hall.MOST_CLAUSES && skip(';') && readClause(hall);
+            for (int i = 1; i < Hall.MOST_CLAUSES && isGood && place < length; i++) {
+                isGood = skip(';') && readClause(hall);
             }
-            return isGood ? -1 : place;
+            return isGood && place >= length ? -1 : place;
         }
 
         private boolean readClause(Hall hall) {
@@ -869,7 +869,7 @@ public final class CaseElsewhere {
 
     /** STEPS from BELT to BELT. */
     private static final class Ways {
-        static final int NO_KEY = Integer.MAX_VALUE;
+        static final int NO_KEY = 1 << 30;
         private static final int OUT = 99;
         private static final int MOST_WAYS = 40;
 

@@ -60,6 +60,8 @@ public final class ChangesTest {
         x.bag(0, 0, 0, 6, 0);
         fraction(x, 0, 6, 1, 729);
         fraction(x, 0, 17, 728, 729);
+        fraction(x, 0, 18, 1, 1);
+        due.is("need by 6 STEPS", x.need(0, 10), 18);
         x.bag(0, 0, 7, 6, 0);
         fraction(x, 1, 99, 0, 1);
         due.is("need by 7 STEPS", x.need(1, 1), -5);
@@ -84,6 +86,10 @@ public final class ChangesTest {
             due.is("need(2, " + p + ")", x.need(2, p), -1);
         }
         due.is("need(-1, 1)", x.need(-1, 1), -1);
+        x.leads(7, 0, 7);
+        x.leads(7, 1, 1);
+        x.bag(2, 0, 7, 2, 0);
+        due.is("need, if it always is READ", x.need(2, 1), 2);
         Due.hall(x, "slow 97 b=0");
         due.is("need by 99: it takes 99 and more", x.need(0, 1), 99);
         due.is("need by 99: it takes too much", x.need(0, 2), -5);

@@ -7,6 +7,7 @@ public final class HallsTest {
         faults();
         goodTexts();
         holding();
+        behindFaults();
         full();
         truths();
         letters();
@@ -137,6 +138,29 @@ public final class HallsTest {
         due.is("hall() of no text", x.hall(), -10);
     }
 
+    /** Nothing of a text that was refused is left. */
+    private static void behindFaults() {
+        CaseElsewhere x = new CaseElsewhere();
+        x.bag(0, 0, 3, 5, 0);
+        due.is("a FAULT behind a good clause", Due.hall(x, "read 2 b=3;x"), -21);
+        due.is("a shorter text", Due.hall(x, "re"), -12);
+        due.is("no text", x.hall(), -10);
+        StringBuilder text = new StringBuilder("read 2 b=3");
+        for (int i = 0; i < 22; i++) {
+            text.append("|b=4");
+        }
+        for (int i = 0; i < 6; i++) {
+            due.is("a FAULT behind many tests", Due.hall(x, text + "|"), -109);
+        }
+        due.is("a good text behind", Due.hall(x, "slow 1 b=3"), 0);
+        due.is("SEEN behind FAULTS", x.of(0, 8), 7);
+        due.is("TAKES behind FAULTS", x.of(0, 9), 2);
+        due.is("a long text", Due.hall(x, text.toString()), 1);
+        due.is("SEEN by a long text", x.of(0, 8), 9);
+        due.is("a long text of !", Due.hall(x, text.toString().replace("|b=4", "&!b=4").substring(0, 95)), 2);
+        due.is("SEEN by a long text of !", x.of(0, 8), 9);
+    }
+
     private static void full() {
         CaseElsewhere x = new CaseElsewhere();
         x.bag(0, 0, 0, 1, 0);
@@ -182,6 +206,16 @@ public final class HallsTest {
         truth("((((b=3))))", true);
         truth("!(!(b=3))", true);
         truth("b=3&b=3&b=3&b=4|b=3&d=5", true);
+        truth("b=3|b=4|b=4", true);
+        truth("b=4|b=3|b=4", true);
+        truth("b=4|b=4|b=3", true);
+        truth("b=3&(b=3)", true);
+        truth("b=3&(b=4|d=5)", true);
+        truth("b=3&(d=5|b=4)&d=5", true);
+        truth("b=4|(b=3&d=5)", true);
+        truth("b=3&(b=4|(d=5&(b=4|d=5)))", true);
+        truth("b=3&(b=4|(d=5&(b=4|d=4)))", false);
+        truth("(b=4|d=5)&(b=3|d=4)", true);
     }
 
     private static void truth(String e, boolean isSo) {

@@ -8,7 +8,9 @@ public final class OwnersTest {
         fit();
         whose();
         whoseTies();
+        whoseOfSix();
         changed();
+        changedOfSix();
         due.end();
     }
 
@@ -42,6 +44,14 @@ public final class OwnersTest {
         due.is("like(123, 3)", x.like(123, 3), 0b111111);
         due.is("like(23, 0)", x.like(23, 0), 0b100000);
         due.is("like(0, 2): the digit 0 ahead", x.like(0, 2), 0b100000);
+        CaseElsewhere y = new CaseElsewhere();
+        y.bag(0, 0, 0, 1, 200);
+        y.bag(0, 0, 0, 1, 201);
+        y.bag(0, 0, 0, 1, 299);
+        due.is("like(299, 2)", y.like(299, 2), 0b111);
+        due.is("like(200, 2)", y.like(200, 2), 0b111);
+        due.is("like(201, 2)", y.like(201, 2), 0b111);
+        due.is("like(100, 1)", y.like(100, 1), 0b001);
         int[][] bad = {{-1, 0}, {1000, 0}, {0, -1}, {0, 4}, {Integer.MIN_VALUE, 0}, {0, Integer.MAX_VALUE}};
         for (int[] b : bad) {
             due.is("like(" + b[0] + ", " + b[1] + ")", x.like(b[0], b[1]), -2);
@@ -109,6 +119,44 @@ public final class OwnersTest {
         due.is("whose(1)", y.whose(1), 0);
     }
 
+    /** OWNER i has FIT 4 with CASE 5 - i alone. */
+    private static void whoseOfSix() {
+        CaseElsewhere x = new CaseElsewhere();
+        for (int i = 0; i < 6; i++) {
+            x.owner(111 * i, i);
+            x.bag(0, 0, 5 - i, 7, 111 * (5 - i));
+        }
+        for (int i = 0; i < 6; i++) {
+            due.is("whose(" + i + ") of six", x.whose(i), 5 - i);
+        }
+        due.is("whose(-1) of six", x.whose(-1), 24);
+        CaseElsewhere y = new CaseElsewhere();
+        for (int i = 0; i < 6; i++) {
+            y.owner(111, 0);
+            y.bag(0, 0, 1, 7, 999);
+        }
+        for (int i = 0; i < 6; i++) {
+            due.is("whose(" + i + ") of six alike", y.whose(i), i);
+        }
+        due.is("whose(-1) of six alike", y.whose(-1), 0);
+    }
+
+    private static void changedOfSix() {
+        CaseElsewhere x = new CaseElsewhere();
+        for (int i = 0; i < 6; i++) {
+            x.owner(111 * i, i);
+            x.bag(0, 0, i == 5 ? 7 : i, 7, 111 * (i < 2 ? 1 - i : i));
+        }
+        due.is("changed(0) of six", x.changed(0), 1);
+        due.is("changed(1) of six", x.changed(1), 1);
+        CaseElsewhere y = new CaseElsewhere();
+        y.owner(111, 4);
+        y.owner(222, 5);
+        y.bag(0, 0, 4, 7, 992);
+        y.bag(0, 0, 5, 7, 112);
+        due.is("changed(0): the other one gains none", y.changed(0), 0);
+    }
+
     private static void changed() {
         CaseElsewhere x = new CaseElsewhere();
         due.is("changed(0) without OWNERS", x.changed(0), 0);
@@ -148,5 +196,6 @@ public final class OwnersTest {
         z.set(1, 2, 5);
         z.bag(0, 0, 2, 0, 111);
         due.is("changed(1) as 0 and 1", z.changed(1), 1);
+        due.is("changed(0) of 0 and 1", z.changed(0), 1);
     }
 }

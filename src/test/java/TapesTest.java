@@ -26,11 +26,13 @@ public final class TapesTest {
         due.is("item of a refused TAPE", x.item(0, 0, 0), -11);
         due.is("tape(0, 3, 60)", x.tape(0, 3, 60), 1);
         due.is("item(0, 59, 7)", x.item(0, 59, 7), 1);
+        due.is("item(0, 0, 8)", x.item(0, 0, 8), 1);
         due.is("tape(0, 3, 61)", x.tape(0, 3, 61), -2);
         due.is("tape(0, 3, -1)", x.tape(0, 3, -1), -14);
         due.is("read(0, 59) behind what was refused", x.read(0, 59), 7);
         due.is("tape(0, 3, 60) again", x.tape(0, 3, 60), 1);
         due.is("read(0, 59): all 0", x.read(0, 59), 0);
+        due.is("read(0, 0): all 0", x.read(0, 0), 0);
         due.is("tape(0, 0, 0)", x.tape(0, 0, 0), 1);
         due.is("item of an empty row", x.item(0, 0, 0), -13);
         due.is("read of an empty row", x.read(0, 0), CaseElsewhere.NO);
