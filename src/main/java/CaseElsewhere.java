@@ -342,7 +342,7 @@ public final class CaseElsewhere {
         if (acting == null || act < 0 || act >= Acts.SORTS) {
             return 0;
         }
-        return acts.run(acting, acting.kind, act, x, 0);
+        return acts.run(acting, act, x);
     }
 
     public int trace(int i) {
@@ -814,7 +814,11 @@ public final class CaseElsewhere {
             if (sign == '(') {
                 return readEither(hall, depth + 1) && skip(')');
             }
-            if (!readOne(hall, depth + 1)) {
+            return readNot(hall, depth + 1);
+        }
+
+        private boolean readNot(Hall hall, int depth) {
+            if (!readOne(hall, depth)) {
                 return false;
             }
             hall.putCode(Hall.NOT);
@@ -1308,27 +1312,32 @@ public final class CaseElsewhere {
             return i >= 0 && i < ran && i < KEPT;
         }
 
+        int run(Bag bag, int act, int x) {
+            return runFrom(this, bag, bag.kind, act, x, 0);
+        }
+
         /** Runs the body of an act that a KIND has, or the next above it that has one. */
-        int run(Bag bag, int kind, int act, int x, int depth) {
+        private static int runFrom(Acts acts, Bag bag, int kind, int act, int x, int depth) {
             if (depth > DEEPEST) {
                 return 0;
             }
             int body = bodyFrom(kind, act);
-            note(body);
+            acts.note(body);
+            int own = bag.kind;
             int above = body >= 10 && body / 10 <= KINDS ? ABOVE[body / 10 - 1] : -1;
             int next = depth + 1;
             switch (body) {
                 case 10: return x + bag.number;
-                case 11: return run(bag, bag.kind, RIDES, x, next) - bag.v;
-                case 12: return run(bag, bag.kind, WAITS, x, next) * 2;
-                case 20: return run(bag, above, WAITS, x, next) ^ 6;
-                case 30: return run(bag, above, RIDES, x * 3, next);
-                case 40: return run(bag, above, TELLS, x, next) + run(bag, bag.kind, WAITS, 1, next);
-                case 50: return -run(bag, above, RIDES, x, next);
-                case 51: return run(bag, above, WAITS, x + 1, next);
-                case 60: return run(bag, above, TELLS, x - bag.number, next);
-                case 70: return run(bag, above, WAITS, x, next) + run(bag, above, RIDES, 2, next);
-                case 71: return run(bag, above, RIDES, x, next) ^ bag.v;
+                case 11: return runFrom(acts, bag, own, RIDES, x, next) - bag.v;
+                case 12: return runFrom(acts, bag, own, WAITS, x, next) * 2;
+                case 20: return runFrom(acts, bag, above, WAITS, x, next) ^ 6;
+                case 30: return runFrom(acts, bag, above, RIDES, x * 3, next);
+                case 40: return runFrom(acts, bag, above, TELLS, x, next) + runFrom(acts, bag, own, WAITS, 1, next);
+                case 50: return -runFrom(acts, bag, above, RIDES, x, next);
+                case 51: return runFrom(acts, bag, above, WAITS, x + 1, next);
+                case 60: return runFrom(acts, bag, above, TELLS, x - bag.number, next);
+                case 70: return runFrom(acts, bag, above, WAITS, x, next) + runFrom(acts, bag, above, RIDES, 2, next);
+                case 71: return runFrom(acts, bag, above, RIDES, x, next) ^ bag.v;
                 default: return 0;
             }
         }

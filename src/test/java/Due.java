@@ -1,21 +1,42 @@
 /** Compares answers with those that are due, and counts the ones that are not. */
 final class Due {
+    private static final int MOST_TOLD = 40;
+
     private int looked = 0;
     private int wrong = 0;
 
     void is(String call, long got, long want) {
         looked++;
         if (got != want) {
-            wrong++;
-            System.out.println(call + " answered " + got + ", due is " + want);
+            tell(call + " answered " + got + ", due is " + want);
         }
     }
 
     void isTrue(String what, boolean isSo) {
         looked++;
         if (!isSo) {
-            wrong++;
-            System.out.println("not so: " + what);
+            tell("not so: " + what);
+        }
+    }
+
+    /** Compares all that two objects answer, as Whole tells it, and tells where they begin to be otherwise. */
+    void isSame(String call, String[] got, String[] want) {
+        looked++;
+        for (int i = 0; i < got.length && i < want.length; i++) {
+            if (!got[i].equals(want[i])) {
+                tell("behind " + call + " it is " + got[i] + ", due is " + want[i]);
+                return;
+            }
+        }
+        if (got.length != want.length) {
+            tell("behind " + call + " there are " + got.length + " answers, due are " + want.length);
+        }
+    }
+
+    private void tell(String what) {
+        wrong++;
+        if (wrong <= MOST_TOLD) {
+            System.out.println(what);
         }
     }
 
@@ -25,6 +46,11 @@ final class Due {
         if (wrong != 0 || looked == 0) {
             System.exit(1);
         }
+    }
+
+    /** Numbers that are not from .. to: the first ones beyond on either side, and the ones furthest off. */
+    static int[] beyond(int from, int to) {
+        return new int[] {from - 1, to + 1, Integer.MIN_VALUE, Integer.MAX_VALUE};
     }
 
     /** Feeds a text and reads it as a HALL. */

@@ -145,20 +145,27 @@ public final class HallsTest {
         due.is("a FAULT behind a good clause", Due.hall(x, "read 2 b=3;x"), -21);
         due.is("a shorter text", Due.hall(x, "re"), -12);
         due.is("no text", x.hall(), -10);
-        StringBuilder text = new StringBuilder("read 2 b=3");
-        for (int i = 0; i < 22; i++) {
-            text.append("|b=4");
-        }
-        for (int i = 0; i < 6; i++) {
-            due.is("a FAULT behind many tests", Due.hall(x, text + "|"), -109);
-        }
         due.is("a good text behind", Due.hall(x, "slow 1 b=3"), 0);
         due.is("SEEN behind FAULTS", x.of(0, 8), 7);
         due.is("TAKES behind FAULTS", x.of(0, 9), 2);
-        due.is("a long text", Due.hall(x, text.toString()), 1);
+        String text = "read 2 b=3" + "|b=4".repeat(22);
+        due.is("a long text", Due.hall(x, text), 1);
         due.is("SEEN by a long text", x.of(0, 8), 9);
-        due.is("a long text of !", Due.hall(x, text.toString().replace("|b=4", "&!b=4").substring(0, 95)), 2);
+        due.is("a long text of !", Due.hall(x, text.replace("|b=4", "&!b=4").substring(0, 95)), 2);
         due.is("SEEN by a long text of !", x.of(0, 8), 9);
+        behindLongFaults("b=3", "b=4", 1);
+        behindLongFaults("b=4", "b=3", 2);
+    }
+
+    /** More tests were refused than a HALL could hold; what is good behind them counts alone. */
+    private static void behindLongFaults(String refused, String good, int takes) {
+        CaseElsewhere x = new CaseElsewhere();
+        x.bag(0, 0, 3, 5, 0);
+        for (int i = 0; i < 4; i++) {
+            due.is("a FAULT behind many tests", Due.hall(x, "slow 9 " + refused + ("|" + refused).repeat(22) + "|"), -109);
+        }
+        due.is("a good text behind", Due.hall(x, "slow 1 " + good), 0);
+        due.is("TAKES behind many tests", x.of(0, 9), takes);
     }
 
     private static void full() {

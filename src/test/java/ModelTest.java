@@ -1,16 +1,19 @@
 /** Runs of calls, made by a fixed rule, on the class and on the naive Model: both must answer alike. */
 public final class ModelTest {
-    private static final int RUNS = 250;
-    private static final int CALLS = 512;
+    private static final int RUNS = 300;
+    private static final int MOST_TRIES = 2000;
     private static final Due due = new Due();
     private static long seed = 20261118;
 
-    private CaseElsewhere x = new CaseElsewhere();
-    private Model m = new Model();
+    private final Both both;
+
+    private ModelTest(int run) {
+        both = new Both(due, "run " + run);
+    }
 
     public static void main(String[] args) {
         for (int run = 0; run < RUNS; run++) {
-            new ModelTest().run(run);
+            new ModelTest(run).run(run);
         }
         due.end();
     }
@@ -32,61 +35,48 @@ public final class ModelTest {
     }
 
     private void run(int number) {
-        int made = 0;
         // most runs begin with belts, cases and owners, so that there is something to ask of
         if (number % 8 != 0) {
-            made += begin();
+            begin();
         }
-        while (made < CALLS) {
-            made += step(number, below(40));
+        for (int i = 0; i < MOST_TRIES && !both.isSpent(); i++) {
+            step(below(40));
         }
     }
 
-    private int begin() {
-        int made = 0;
+    private void begin() {
         for (int belt = 0; belt < 8; belt++) {
-            int first = below(8);
-            int second = below(8);
-            due.is("leads", x.leads(belt, 0, first), m.leads(belt, 0, first));
-            due.is("leads", x.leads(belt, 1, second), m.leads(belt, 1, second));
-            made += 2;
+            both.leads(belt, 0, below(8));
+            both.leads(belt, 1, below(8));
         }
         for (int i = below(7); i > 0; i--) {
-            made += bag();
+            bag();
         }
         for (int i = below(7); i > 0; i--) {
-            made += owner();
+            owner();
         }
-        return made + hall();
+        hall();
     }
 
     private static int marks() {
         int[] digits = {1, 2, 9, 0};
-        return digits[below(4)] * 100 + digits[below(4)] * 10 + digits[below(3)];
+        return below(30) == 0 ? some(999) : digits[below(4)] * 100 + digits[below(4)] * 10 + digits[below(3)];
     }
 
-    private int bag() {
-        int kind = some(6), v = some(9), belt = some(7), slip = some(7);
-        int marks = below(30) == 0 ? some(999) : marks();
-        String call = "bag(" + kind + ", " + v + ", " + belt + ", " + slip + ", " + marks + ")";
-        due.is(call, x.bag(kind, v, belt, slip, marks), m.bag(kind, v, belt, slip, marks));
-        return 1;
+    private void bag() {
+        both.bag(some(6), some(9), some(7), some(7), marks());
     }
 
-    private int owner() {
-        int marks = below(30) == 0 ? some(999) : marks();
-        int belt = some(7);
-        due.is("owner(" + marks + ", " + belt + ")", x.owner(marks, belt), m.owner(marks, belt));
-        return 1;
+    private void owner() {
+        both.owner(marks(), some(7));
     }
 
-    private int hall() {
+    private void hall() {
         String text = text();
         for (int i = 0; i < text.length(); i++) {
-            due.is("feed", x.feed(text.charAt(i)), m.feed(text.charAt(i)));
+            both.feed(text.charAt(i));
         }
-        due.is("hall of " + text, x.hall(), m.hall());
-        return text.length() + 1;
+        both.hall();
     }
 
     private static String text() {
@@ -139,118 +129,103 @@ public final class ModelTest {
         }
     }
 
-    private int step(int run, int what) {
-        int a = some(6), b = some(5), c = some(7);
-        String call = "run " + run + ", what " + what + " of " + a + ", " + b + ", " + c;
+    private void step(int what) {
         if (what < 12) {
-            return change(what, a, b, c);
+            change(what, some(6), some(5), some(7));
+        } else if (what < 28) {
+            ask(what, some(6), some(5), some(7));
+        } else {
+            tapes(what, some(6), some(5), some(7));
         }
-        long[] got = what < 28 ? asked(what, a, b, c) : tapes(what, a, b, c);
-        due.is(call, got[0], got[1]);
-        return 1;
     }
 
-    private int change(int what, int a, int b, int c) {
-        boolean isRead = below(2) == 0;
+    private void change(int what, int a, int bag, int belt) {
         switch (what) {
-            case 0: return bag();
-            case 1: return owner();
-            case 2: return below(3) == 0 ? hall() : 1;
-            case 3: due.is("leads", x.leads(c, a % 3, b), m.leads(c, a % 3, b)); return 1;
-            case 4: due.is("image", below(2) == 0 ? x.image() - m.image() : 0, 0); return 1;
-            case 5: due.is("undo", below(3) == 0 ? x.undo() - m.undo() : 0, 0); return 1;
-            case 6: due.is("set", x.set(b, a % 4, c), m.set(b, a % 4, c)); return 1;
-            case 7: due.is("film", x.film(c), m.film(c)); return 1;
-            case 8: due.is("feed", below(9) == 0 ? x.feed(c) - m.feed(c) : 0, 0); return 1;
-            case 9: return film(b);
-            default: due.is("ride(" + b + ")", x.ride(b, isRead), m.ride(b, isRead)); return 1;
+            case 0: bag(); break;
+            case 1: owner(); break;
+            case 2: if (below(3) == 0) hall(); break;
+            case 3: both.leads(belt, a % 3, some(7)); break;
+            case 4: if (below(2) == 0) both.image(); break;
+            case 5: if (below(3) == 0) both.undo(); break;
+            case 6: both.set(bag, a % 4, belt); break;
+            case 7: both.film(belt); break;
+            case 8: if (below(9) == 0) both.feed(belt); break;
+            case 9: film(bag); break;
+            default: both.ride(bag, below(2) == 0); break;
         }
     }
 
     /** A FILM that goes as a CASE may go, as a rule. */
-    private int film(int bag) {
-        due.is("film", x.film(-1), m.film(-1));
-        int belt = x.of(bag, 2);
-        for (int i = 0; i < 13; i++) {
-            due.is("film", x.film(belt), m.film(belt));
-            due.is("could(" + bag + ") behind " + i, x.could(bag), m.could(bag));
-            int what = below(2);
-            int next = belt < 0 ? 0 : x.leads(belt, what, 0);
-            if (belt >= 0) {
-                x.leads(belt, what, next);
+    private void film(int bag) {
+        both.film(-1);
+        int slip = (int) both.of(bag, 3);
+        int belt = (int) both.of(bag, 2);
+        for (int i = 0; i < 6 + below(8); i++) {
+            both.film(belt);
+            both.could(bag);
+            if (belt != slip && below(12) != 0) {
+                int what = below(2);
+                int next = (int) both.leads(belt, what, 0);
+                both.leads(belt, what, next);
+                belt = next;
             }
-            belt = below(12) == 0 || x.of(bag, 3) == belt ? belt : next;
         }
-        return 50;
     }
 
-    private long[] asked(int what, int a, int b, int c) {
+    private void ask(int what, int a, int bag, int c) {
         switch (what) {
-            case 12: return new long[] {x.near(a, c), m.near(a, c)};
-            case 13: return new long[] {x.of(b, a * 2), m.of(b, a * 2)};
-            case 14: return new long[] {x.of(b, 8 + c % 3), m.of(b, 8 + c % 3)};
-            case 15: return new long[] {x.by(b, a, c & 1), m.by(b, a, c & 1)};
-            case 16: return new long[] {x.by(b, 6, c), m.by(b, 6, c)};
-            case 17: return new long[] {x.where(b, a, c, 0), m.where(b, a, c, 0)};
-            case 18: return new long[] {x.where(b, a, c, 1), m.where(b, a, c, 1)};
-            case 19: return new long[] {x.soonest(b, a & 1), m.soonest(b, a & 1)};
-            case 20: return new long[] {x.ring(b), m.ring(b)};
-            case 21: return new long[] {x.steps(b, a % 3), m.steps(b, a % 3)};
-            case 22: return like(a);
-            case 23: return new long[] {x.fit(a, b), m.fit(a, b)};
-            case 24: return new long[] {x.whose(a - 1), m.whose(a - 1)};
-            case 25: return new long[] {x.changed(a % 3), m.changed(a % 3)};
-            case 26: return minutes(b, c);
-            default: return new long[] {x.need(b, a + c), m.need(b, a + c)};
+            case 12: both.near(a, c); break;
+            case 13: both.of(bag, a * 2); break;
+            case 14: both.of(bag, 8 + c % 3); break;
+            case 15: both.by(bag, a, c & 1); break;
+            case 16: both.by(bag, 6, c); break;
+            case 17: both.where(bag, a, c, 0); break;
+            case 18: both.where(bag, a, c, 1); break;
+            case 19: both.soonest(bag, a & 1); break;
+            case 20: both.ring(bag); break;
+            case 21: both.steps(bag, a % 3); break;
+            case 22: both.like(marks(), a); break;
+            case 23: both.fit(a, bag); break;
+            case 24: both.whose(a - 1); break;
+            case 25: both.changed(a % 3); break;
+            case 26: both.change(bag, some(30), c & 1); break;
+            default: both.need(bag, a + c); break;
         }
     }
 
-    private long[] like(int slips) {
-        int marks = marks();
-        return new long[] {x.like(marks, slips), m.like(marks, slips)};
-    }
-
-    private long[] minutes(int bag, int part) {
-        int n = some(30);
-        return new long[] {x.change(bag, n, part & 1), m.change(bag, n, part & 1)};
-    }
-
-    private long[] tapes(int what, int a, int b, int c) {
+    private void tapes(int what, int a, int b, int c) {
         int n = some(9);
         long v = below(3) == 0 ? seed : c;
         switch (what) {
-            case 28: return new long[] {x.room(a - 1), m.room(a - 1)};
-            case 29: return new long[] {x.could(b), m.could(b)};
-            case 30: return new long[] {x.judge(b, c - 1), m.judge(b, c - 1)};
-            case 31: case 32: return new long[] {x.act(b, a % 4, (int) v), m.act(b, a % 4, (int) v)};
-            case 33: return new long[] {x.trace(n), m.trace(n)};
-            case 34: return new long[] {x.taken(b, a), m.taken(b, a)};
-            case 35: return new long[] {x.count(a), m.count(a)};
-            case 36: return tape(b, a, n);
-            case 37: return new long[] {x.item(b, n, v), m.item(b, n, v)};
-            case 38: return new long[] {x.read(b, n), m.read(b, n)};
-            default: return shift(b, a, c, n);
+            case 28: both.room(a - 1); break;
+            case 29: both.could(b); break;
+            case 30: both.judge(b, c - 1); break;
+            case 31: case 32: both.act(b, a % 4, (int) v); break;
+            case 33: both.trace(n); break;
+            case 34: both.taken(b, a); break;
+            case 35: both.count(a); break;
+            case 36: tape(b, a, n); break;
+            case 37: both.item(b, n, v); break;
+            case 38: both.read(b, n); break;
+            default: shift(b, a, c, n); break;
         }
     }
 
     /** A TAPE of some sort, or of bytes that tell where CASES are. */
-    private long[] tape(int tape, int sort, int n) {
+    private void tape(int tape, int sort, int n) {
         int of = below(3) == 0 ? sort - 1 : 0;
-        long[] answers = {x.tape(tape, of, n), m.tape(tape, of, n)};
+        both.tape(tape, of, n);
         for (int i = 0; of == 0 && i < 6; i++) {
-            int belt = x.of(i, 2);
-            due.is("item", x.item(tape, i + 1, belt), m.item(tape, i + 1, belt));
-            due.is("judge", x.judge(tape, 1), m.judge(tape, 1));
+            both.item(tape, i + 1, both.of(i, 2));
+            both.judge(tape, 1);
         }
-        return answers;
     }
 
-    private long[] shift(int tape, int i, int j, int n) {
+    private void shift(int tape, int i, int j, int n) {
         int other = below(2) == 0 ? tape : some(5);
-        long[] answers = {x.shift(tape, i, other, j, n), m.shift(tape, i, other, j, n)};
+        both.shift(tape, i, other, j, n);
         for (int k = 0; k < 9; k++) {
-            due.is("read", x.read(other, k), m.read(other, k));
+            both.read(other, k);
         }
-        return answers;
     }
 }
