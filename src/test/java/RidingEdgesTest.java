@@ -23,6 +23,7 @@ public final class RidingEdgesTest {
         soonestFirst();
         soonestInForty();
         soonestByMinutes();
+        soonestNeverGone();
         ringBits();
         ringByRead();
         alwaysAndNever();
@@ -362,6 +363,24 @@ public final class RidingEdgesTest {
         CaseElsewhere y = fork(1, 1, 7);
         Due.hall(y, "slow 99 b<9;slow 99 b<9;slow 99 b<9");
         due.is("soonest(0, 0) of many MINUTES", y.soonest(0, 0), 7 * 298);
+    }
+
+    /** "by STEPS, each READ or not": a SECOND that is not the nearer one is gone to by none, however quick it is. */
+    private static void soonestNeverGone() {
+        CaseElsewhere x = fork(1, 2, 7);
+        x.leads(1, 0, 7);
+        x.leads(2, 0, 3);
+        x.leads(3, 0, 7);
+        Due.hall(x, "slow 50 b=1");
+        due.is("soonest(0, 0): the FIRST is nearer, the SECOND quicker", x.soonest(0, 0), 52);
+        due.is("soonest(0, 1): the FIRST is nearer, the SECOND quicker", x.soonest(0, 1), 0);
+        x.leads(2, 0, 7);
+        due.is("soonest(0, 0): both are as near, the SECOND quicker", x.soonest(0, 0), 52);
+        due.is("soonest(0, 1): both are as near, the SECOND quicker", x.soonest(0, 1), 0);
+        x.leads(1, 0, 4);
+        x.leads(4, 0, 7);
+        due.is("soonest(0, 0): the SECOND is nearer and quicker", x.soonest(0, 0), 2);
+        due.is("soonest(0, 1): the SECOND is nearer and quicker", x.soonest(0, 1), 1);
     }
 
     /** "RING: .. (that on which it is, too) .. as bits". */
